@@ -99,27 +99,11 @@ public final class CornerHeaps {
     // ---- what is done
 
     public int lay(int heap, int i, int j) {
-        Heap source = heapAt(heap);
-        if (source == null || !source.box.hasCell(i, j)) {
-            return BAD;
-        }
-        if (!source.box.growsAt(source.cubes, i, j)) {
-            return STATE;
-        }
-        put(new Heap(source.box, source.cubes + Box.cube(i, j)), heap);
-        return height(heap, i, j);
+        return change(heap, i, j, true);
     }
 
     public int off(int heap, int i, int j) {
-        Heap source = heapAt(heap);
-        if (source == null || !source.box.hasCell(i, j)) {
-            return BAD;
-        }
-        if (!source.box.shrinksAt(source.cubes, i, j)) {
-            return STATE;
-        }
-        put(new Heap(source.box, source.cubes - Box.cube(i, j)), heap);
-        return height(heap, i, j);
+        return change(heap, i, j, false);
     }
 
     public int turn(int heap, int how, int to) {
@@ -174,8 +158,8 @@ public final class CornerHeaps {
             case 3: return source.volume();
             case 4: return numberOf(source);
             case 5: return source.box.trace(source.cubes);
-            case 6: return source.box.growingCells(source.cubes);
-            case 7: return source.box.shrinkingCells(source.cubes);
+            case 6: return source.box.changingCells(source.cubes, true);
+            case 7: return source.box.changingCells(source.cubes, false);
             case 8: return source.box.symmetries(source.cubes);
             case 9: return relatives.gather(source);
             default: return BAD;
@@ -362,6 +346,19 @@ public final class CornerHeaps {
         }
     }
 
+    private int change(int place, int i, int j, boolean adding) {
+        Heap source = heapAt(place);
+        if (source == null || !source.box.hasCell(i, j)) {
+            return BAD;
+        }
+        if (!source.box.changesAt(source.cubes, i, j, adding)) {
+            return STATE;
+        }
+        long cube = Box.cube(i, j);
+        put(new Heap(source.box, adding ? source.cubes + cube : source.cubes - cube), place);
+        return height(place, i, j);
+    }
+
     private int heapsOnPlaces() {
         int heaps = 0;
         for (int place = 0; place < PLACES; place++) {
@@ -405,7 +402,7 @@ public final class CornerHeaps {
         }
         int sum = 0;
         for (int i = 0; i < box.a; i++) {
-            for (int j = 0; j < box.b; j++) {
+            for (int j = 0; j < box.b && box.level(cubes, i, j) > 0; j++) {
                 if (box.shrinksAt(cubes, i, j)) {
                     sum += ordersOf(box, cubes - Box.cube(i, j), volume - 1);
                 }
@@ -550,23 +547,15 @@ public final class CornerHeaps {
             return height > level(cubes, i + 1, j) && height > level(cubes, i, j + 1);
         }
 
-        int growingCells(long cubes) {
-            int cells = 0;
-            for (int i = 0; i < a; i++) {
-                for (int j = 0; j < b; j++) {
-                    if (growsAt(cubes, i, j)) {
-                        cells++;
-                    }
-                }
-            }
-            return cells;
+        boolean changesAt(long cubes, int i, int j, boolean growing) {
+            return growing ? growsAt(cubes, i, j) : shrinksAt(cubes, i, j);
         }
 
-        int shrinkingCells(long cubes) {
+        int changingCells(long cubes, boolean growing) {
             int cells = 0;
             for (int i = 0; i < a; i++) {
                 for (int j = 0; j < b; j++) {
-                    if (shrinksAt(cubes, i, j)) {
+                    if (changesAt(cubes, i, j, growing)) {
                         cells++;
                     }
                 }
