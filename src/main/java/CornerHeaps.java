@@ -1132,6 +1132,10 @@ public final class CornerHeaps {
             return sign() >= '0' && sign() <= '9';
         }
 
+        private boolean isLetter() {
+            return sign() == 'e' || sign() == 'n';
+        }
+
         private boolean readSides() {
             a = sign() - '0';
             if (!readSide(a, 1, 1)) {
@@ -1239,7 +1243,8 @@ public final class CornerHeaps {
                 }
                 position++;
             }
-            return true;
+            // A whole word has all letters of both kinds, so one more is of the right sort, but too many.
+            return !isLetter() || failed(NOT_AS_TOLD);
         }
 
         /** Notes a height, unless what has been told already rules it out. */

@@ -276,7 +276,7 @@ final class Model {
         }
         int inWord = (length - 5) % (b + c + 1);
         int row = (length - 5) / (b + c + 1);
-        return inWord < b + c ? "en" : row < a - 1 ? "," : ";";
+        return inWord < b + c ? "en" : row < a - 1 ? "en," : "en;";
     }
 
     private static Pile parse(String text) {

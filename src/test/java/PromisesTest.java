@@ -168,7 +168,11 @@ public final class PromisesTest {
             "7 2 x112pnnn", "8 1 x112pnen", "8 1 x112pnen,", "9 1 x112pnen;;", "8 1 x212pnen;", "9 2 x212pnen,enn;",
             "9 1 x212pnen,;", "12 1 x212pnen,nen,", "10 2 x222pneen,enen;", "8 2 x222pnenn;", "7 2 x222peee",
             "12 2 x222pnene,neen;", "5 1 x112p1"};
-        String[][] all = {beginnings, rows, diagonals, words};
+        String[] behindWholeWords = {"9 2 x222pnenee", "9 2 x222pnenen", "9 2 x222pneenn", "9 2 x222pnneee",
+            "8 2 x112pnene", "8 2 x112pnenn;", "8 2 x112pnnee;", "8 2 x112pennn;", "12 2 x212pnen,nene;",
+            "12 2 x212pnen,nenn", "8 2 x212pnene,nen;", "8 1 x112pnenx", "8 1 x112pnenE", "8 1 x112pnen1",
+            "8 1 x112pnend", "9 1 x112pnen;e", "9 1 x112pnen;n", "12 1 x212pnen,nen,e", "6 1 x111r1e", "6 1 x111d1n"};
+        String[][] all = {beginnings, rows, diagonals, words, behindWholeWords};
         for (String[] sort : all) {
             for (String line : sort) {
                 oneFault(line.split(" ", 3));
@@ -216,6 +220,12 @@ public final class PromisesTest {
         due("undo", x.fault(), 2);
         read(x, "y", 0);
         due("a text with fault 1", x.fault(), 1);
+        read(x, "x222pnenee", 0);
+        due("an e behind a whole word", x.fault(), 2);
+        read(x, "x222pnenex", 0);
+        due("an x behind a whole word", x.fault(), 1);
+        read(x, "x222pnene,nenen;", 0);
+        due("an n behind the last word", x.fault(), 2);
     }
 
     private static void undo() {
