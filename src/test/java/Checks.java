@@ -4,8 +4,25 @@ final class Checks {
 
     private static int right = 0;
     private static int wrong = 0;
+    private static String sentence = "";
+    private static int answersBefore = -1;
 
     private Checks() {
+    }
+
+    /** A sentence of the document: what follows, up to the next one, is told as a test of it. */
+    static void says(String words) {
+        endSentence();
+        sentence = words;
+        answersBefore = right + wrong;
+    }
+
+    private static void endSentence() {
+        if (answersBefore == right + wrong) {
+            holds("a test of this sentence", false);
+        }
+        sentence = "";
+        answersBefore = -1;
     }
 
     static void due(String call, long got, long want) {
@@ -13,14 +30,26 @@ final class Checks {
             right++;
             return;
         }
-        wrong++;
-        if (wrong <= MOST_PRINTED) {
-            System.out.println(call + " answered " + got + ", due is " + want);
+        tell(call + " answered " + got + ", due is " + want);
+    }
+
+    static void same(String what, String got, String want) {
+        if (got.equals(want)) {
+            right++;
+            return;
         }
+        tell(what + " is " + got + ", due is " + want);
     }
 
     static void holds(String claim, boolean held) {
         due(claim, held ? 1 : 0, 1);
+    }
+
+    private static void tell(String fault) {
+        wrong++;
+        if (wrong <= MOST_PRINTED) {
+            System.out.println((sentence.isEmpty() ? "" : "\"" + sentence + "\": ") + fault);
+        }
     }
 
     static boolean anyWrong() {
@@ -28,6 +57,7 @@ final class Checks {
     }
 
     static void finish() {
+        endSentence();
         System.out.println(right + " answers as due, " + wrong + " not");
         if (wrong > 0 || right == 0) {
             System.exit(1);

@@ -6,9 +6,6 @@ public final class PromisesTest {
     private static final int FULL = CornerHeaps.FULL;
     private static final int MIN = Integer.MIN_VALUE;
     private static final int MAX = Integer.MAX_VALUE;
-    private static final int[] NO_PLACES = {MIN, -1, 4, MAX};
-    private static final int[][] NO_BOXES = {{0, 1, 1}, {1, 0, 1}, {1, 1, 0}, {5, 1, 1}, {1, 5, 1}, {1, 1, 5},
-        {-1, 2, 2}, {4, 4, 4}, {MIN, 1, 1}, {1, MAX, 1}, {1, 1, MIN}, {1 << 16, 1 << 16, 1}};
 
     private static int promise = 0;
 
@@ -52,38 +49,8 @@ public final class PromisesTest {
         Checks.due("promise " + promise + ": " + call, got, want);
     }
 
-    private static void write(CornerHeaps x, String text) {
-        for (int n = 0; n < text.length(); n++) {
-            x.feed(text.charAt(n));
-        }
-    }
-
-    private static int read(CornerHeaps x, String text, int to) {
-        write(x, text);
-        return x.heap(to);
-    }
-
-    private static CornerHeaps with(String... texts) {
-        CornerHeaps x = new CornerHeaps();
-        for (int place = 0; place < texts.length; place++) {
-            read(x, texts[place], place);
-        }
-        return x;
-    }
-
-    /** A heap as a text of rows, or nothing. */
-    private static String shown(CornerHeaps x, int place) {
-        StringBuilder text = new StringBuilder();
-        for (int i = 0; i < x.whole(place, 0); i++) {
-            for (int j = 0; j < x.whole(place, 1); j++) {
-                text.append(x.height(place, i, j));
-            }
-        }
-        return text.length() == 0 ? "" : "x" + x.whole(place, 0) + x.whole(place, 1) + x.whole(place, 2) + "r" + text + ";";
-    }
-
     private static void dueHeap(String call, CornerHeaps x, int place, String want) {
-        String got = shown(x, place);
+        String got = Bench.shown(x, place);
         Checks.holds("promise " + promise + ": " + call + " leaves " + want + ", not " + got, got.equals(want));
     }
 
@@ -126,7 +93,7 @@ public final class PromisesTest {
         due("heap of a full tape", x.heap(0), -1000100);
         due("feed after heap", x.feed(120), 1);
         CornerHeaps y = new CornerHeaps();
-        write(y, "x111r1;" + "0".repeat(60));
+        Bench.write(y, "x111r1;" + "0".repeat(60));
         due("a right text with a tail", y.heap(0), -1000107);
     }
 
@@ -145,7 +112,7 @@ public final class PromisesTest {
             {"x434peeennnn,eeennnn,nnnneee,nnnneee;", "x434r444444000000;"}};
         for (String[] text : texts) {
             CornerHeaps x = new CornerHeaps();
-            write(x, text[0]);
+            Bench.write(x, text[0]);
             int volume = text[1].substring(5).chars().filter(sign -> sign != ';').map(sign -> sign - '0').sum();
             due(text[0], x.heap(3), volume);
             dueHeap(text[0], x, 3, text[1]);
@@ -181,8 +148,8 @@ public final class PromisesTest {
     }
 
     private static void oneFault(String[] line) {
-        CornerHeaps x = with("x122r21;");
-        due("heap of " + line[2], read(x, line[2], 0), -1000100 - Integer.parseInt(line[0]));
+        CornerHeaps x = Bench.with("x122r21;");
+        due("heap of " + line[2], Bench.read(x, line[2], 0), -1000100 - Integer.parseInt(line[0]));
         due("fault of " + line[2], x.fault(), Integer.parseInt(line[1]));
         due("tape after " + line[2], x.count(3), 0);
         due("acts after " + line[2], x.count(2), 1);
@@ -191,9 +158,9 @@ public final class PromisesTest {
 
     private static void heapAndItsState() {
         promise = 3;
-        CornerHeaps x = with("x222r2010;");
-        write(x, "x111r1;");
-        for (int place : NO_PLACES) {
+        CornerHeaps x = Bench.with("x222r2010;");
+        Bench.write(x, "x111r1;");
+        for (int place : Bench.NO_PLACES) {
             due("heap to " + place, x.heap(place), BAD);
         }
         due("the tape stays", x.count(3), 7);
@@ -208,23 +175,23 @@ public final class PromisesTest {
         promise = 4;
         CornerHeaps x = new CornerHeaps();
         due("no text", x.fault(), 0);
-        read(x, "x111r0;", 0);
+        Bench.read(x, "x111r0;", 0);
         due("a right text", x.fault(), 0);
-        read(x, "x5", 0);
+        Bench.read(x, "x5", 0);
         due("a text with fault 2", x.fault(), 2);
-        read(x, "x111r0;", 0);
+        Bench.read(x, "x111r0;", 0);
         due("a right text afterwards", x.fault(), 2);
         x.heap(4);
         due("no text read", x.fault(), 2);
         x.undo();
         due("undo", x.fault(), 2);
-        read(x, "y", 0);
+        Bench.read(x, "y", 0);
         due("a text with fault 1", x.fault(), 1);
-        read(x, "x222pnenee", 0);
+        Bench.read(x, "x222pnenee", 0);
         due("an e behind a whole word", x.fault(), 2);
-        read(x, "x222pnenex", 0);
+        Bench.read(x, "x222pnenex", 0);
         due("an x behind a whole word", x.fault(), 1);
-        read(x, "x222pnene,nenen;", 0);
+        Bench.read(x, "x222pnene,nenen;", 0);
         due("an n behind the last word", x.fault(), 2);
     }
 
@@ -264,9 +231,9 @@ public final class PromisesTest {
     private static void undoOfEveryAct() {
         promise = 5;
         for (int act = 0; act < 8; act++) {
-            CornerHeaps x = with("x222r2010;", "x222r2100;");
+            CornerHeaps x = Bench.with("x222r2010;", "x222r2100;");
             switch (act) {
-                case 0: read(x, "x111r1;", 0); break;
+                case 0: Bench.read(x, "x111r1;", 0); break;
                 case 1: x.take(2, 2, 2, 19, 0); break;
                 case 2: x.drawn(2, 2, 2, 2, 0); break;
                 case 3: x.lay(0, 0, 1); break;
@@ -275,7 +242,7 @@ public final class PromisesTest {
                 case 6: x.join(0, 1, 0, 0); break;
                 default: x.drop(0); break;
             }
-            Checks.holds("promise 5: act " + act + " changes the place", !shown(x, 0).equals("x222r2010;"));
+            Checks.holds("promise 5: act " + act + " changes the place", !Bench.shown(x, 0).equals("x222r2010;"));
             due("undo of act " + act, x.undo(), 2);
             dueHeap("undo of act " + act, x, 0, "x222r2010;");
             dueHeap("undo of act " + act, x, 1, "x222r2100;");
@@ -297,10 +264,10 @@ public final class PromisesTest {
         due("number -1", x.take(2, 2, 2, -1, 0), BAD);
         due("number MIN", x.take(2, 2, 2, MIN, 0), BAD);
         due("number MAX", x.take(2, 2, 2, MAX, 0), BAD);
-        for (int place : NO_PLACES) {
+        for (int place : Bench.NO_PLACES) {
             due("take to " + place, x.take(2, 2, 2, 0, place), BAD);
         }
-        for (int[] box : NO_BOXES) {
+        for (int[] box : Bench.NO_BOXES) {
             due("take from no box", x.take(box[0], box[1], box[2], 0, 0), BAD);
         }
         due("acts", x.count(2), 5);
@@ -320,10 +287,10 @@ public final class PromisesTest {
         due("seed -1", x.drawn(2, 2, 2, -1, 0), BAD);
         due("seed 1000000", x.drawn(2, 2, 2, 1000000, 0), BAD);
         due("seed MIN", x.drawn(2, 2, 2, MIN, 0), BAD);
-        for (int place : NO_PLACES) {
+        for (int place : Bench.NO_PLACES) {
             due("drawn to " + place, x.drawn(2, 2, 2, 1, place), BAD);
         }
-        for (int[] box : NO_BOXES) {
+        for (int[] box : Bench.NO_BOXES) {
             due("drawn from no box", x.drawn(box[0], box[1], box[2], 1, 0), BAD);
         }
         due("acts", x.count(2), 4);
@@ -331,7 +298,7 @@ public final class PromisesTest {
 
     private static void lay() {
         promise = 8;
-        CornerHeaps x = with("x222r0000;");
+        CornerHeaps x = Bench.with("x222r0000;");
         due("lay at (1, 1) of none", x.lay(0, 1, 1), STATE);
         due("lay at (0, 1) of none", x.lay(0, 0, 1), STATE);
         due("lay at (1, 0) of none", x.lay(0, 1, 0), STATE);
@@ -352,14 +319,14 @@ public final class PromisesTest {
         due("row MIN", x.lay(0, MIN, 0), BAD);
         due("column MAX", x.lay(0, 0, MAX), BAD);
         due("an empty place", x.lay(1, 0, 0), BAD);
-        for (int place : NO_PLACES) {
+        for (int place : Bench.NO_PLACES) {
             due("place " + place, x.lay(place, 0, 0), BAD);
         }
     }
 
     private static void off() {
         promise = 9;
-        CornerHeaps x = with("x222r2222;");
+        CornerHeaps x = Bench.with("x222r2222;");
         due("under others", x.off(0, 0, 0), STATE);
         due("before a right neighbour", x.off(0, 1, 0), STATE);
         due("before a lower neighbour", x.off(0, 0, 1), STATE);
@@ -377,7 +344,7 @@ public final class PromisesTest {
         due("column 2", x.off(0, 0, 2), BAD);
         due("row MAX", x.off(0, MAX, 0), BAD);
         due("an empty place", x.off(1, 0, 0), BAD);
-        for (int place : NO_PLACES) {
+        for (int place : Bench.NO_PLACES) {
             due("place " + place, x.off(place, 0, 0), BAD);
         }
         due("acts", x.count(2), 6);
@@ -385,7 +352,7 @@ public final class PromisesTest {
 
     private static void turn() {
         promise = 10;
-        CornerHeaps x = with("x123r31;");
+        CornerHeaps x = Bench.with("x123r31;");
         due("transpose", x.turn(0, 0, 1), 4);
         dueHeap("transpose", x, 1, "x213r31;");
         due("rotate", x.turn(0, 1, 2), 4);
@@ -404,7 +371,7 @@ public final class PromisesTest {
         due("acts", x.count(2), 7);
         x.drop(1);
         due("an empty place", x.turn(1, 0, 0), BAD);
-        for (int place : NO_PLACES) {
+        for (int place : Bench.NO_PLACES) {
             due("from place " + place, x.turn(place, 0, 0), BAD);
             due("to place " + place, x.turn(0, 0, place), BAD);
         }
@@ -412,7 +379,7 @@ public final class PromisesTest {
 
     private static void join() {
         promise = 11;
-        CornerHeaps x = with("x222r2010;", "x222r1100;", "x223r0000;");
+        CornerHeaps x = Bench.with("x222r2010;", "x222r1100;", "x223r0000;");
         due("union", x.join(0, 1, 0, 3), 4);
         dueHeap("union", x, 3, "x222r2110;");
         due("intersection", x.join(1, 0, 1, 3), 1);
@@ -428,24 +395,24 @@ public final class PromisesTest {
         x.drop(3);
         due("an empty place", x.join(0, 3, 0, 3), BAD);
         due("an empty place", x.join(3, 0, 0, 3), BAD);
-        for (int place : NO_PLACES) {
+        for (int place : Bench.NO_PLACES) {
             due("x " + place, x.join(place, 0, 0, 0), BAD);
             due("y " + place, x.join(0, place, 0, 0), BAD);
             due("to " + place, x.join(0, 0, 0, place), BAD);
         }
-        CornerHeaps y = with("x123r00;", "x213r00;", "x132r000;");
+        CornerHeaps y = Bench.with("x123r00;", "x213r00;", "x132r000;");
         due("sides in another order", y.join(0, 1, 0, 3), STATE);
         due("sides in another order", y.join(0, 2, 0, 3), STATE);
     }
 
     private static void drop() {
         promise = 12;
-        CornerHeaps x = with("x222r2010;", "x111r0;");
+        CornerHeaps x = Bench.with("x222r2010;", "x111r0;");
         due("a heap", x.drop(0), 3);
         due("heaps then", x.count(0), 1);
         due("no heap", x.drop(0), BAD);
         due("the empty heap", x.drop(1), 0);
-        for (int place : NO_PLACES) {
+        for (int place : Bench.NO_PLACES) {
             due("place " + place, x.drop(place), BAD);
         }
         due("acts", x.count(2), 4);
@@ -453,7 +420,7 @@ public final class PromisesTest {
 
     private static void height() {
         promise = 13;
-        CornerHeaps x = with("x234r431210;");
+        CornerHeaps x = Bench.with("x234r431210;");
         int[] heights = {4, 3, 1, 2, 1, 0};
         for (int cell = 0; cell < 6; cell++) {
             due("cell " + cell, x.height(0, cell / 3, cell % 3), heights[cell]);
@@ -465,14 +432,14 @@ public final class PromisesTest {
         due("row MIN", x.height(0, MIN, 0), BAD);
         due("column MAX", x.height(0, 0, MAX), BAD);
         due("an empty place", x.height(1, 0, 0), BAD);
-        for (int place : NO_PLACES) {
+        for (int place : Bench.NO_PLACES) {
             due("place " + place, x.height(place, 0, 0), BAD);
         }
     }
 
     private static void whole() {
         promise = 14;
-        CornerHeaps x = with("x333r321210100;", "x123r31;", "x222r2110;", "x443r3333333300000000;");
+        CornerHeaps x = Bench.with("x333r321210100;", "x123r31;", "x222r2110;", "x443r3333333300000000;");
         long[][] wants = {{3, 3, 3, 10, 310, 4, 7, 6, 3, 2}, {1, 2, 3, 4, 7, 3, 1, 2, 0, 12},
             {2, 2, 2, 4, 10, 2, 3, 3, 15, 1}, {4, 4, 3, 24, 24206, 6, 1, 1, 4, 6}};
         for (int place = 0; place <= 3; place++) {
@@ -483,7 +450,7 @@ public final class PromisesTest {
             due("what 10", x.whole(place, 10), BAD);
             due("what MIN", x.whole(place, MIN), BAD);
         }
-        for (int place : NO_PLACES) {
+        for (int place : Bench.NO_PLACES) {
             due("place " + place, x.whole(place, 0), BAD);
         }
         x.drop(0);
@@ -492,7 +459,7 @@ public final class PromisesTest {
 
     private static void path() {
         promise = 15;
-        CornerHeaps x = with("x234r431210;");
+        CornerHeaps x = Bench.with("x234r431210;");
         String[] words = {"enennen", "nnenene"};
         for (int i = 0; i < 2; i++) {
             for (int k = 0; k < 7; k++) {
@@ -507,14 +474,14 @@ public final class PromisesTest {
         due("row 2", x.path(0, 2, 0), BAD);
         due("no such row and letter", x.path(0, 2, 7), BAD);
         due("an empty place", x.path(1, 0, 0), BAD);
-        for (int place : NO_PLACES) {
+        for (int place : Bench.NO_PLACES) {
             due("place " + place, x.path(place, 0, 0), BAD);
         }
     }
 
     private static void slice() {
         promise = 16;
-        CornerHeaps x = with("x234r431210;");
+        CornerHeaps x = Bench.with("x234r431210;");
         String[] diagonals = {"2", "41", "30", "1"};
         for (int d = -1; d <= 2; d++) {
             String diagonal = diagonals[d + 1];
@@ -531,14 +498,14 @@ public final class PromisesTest {
         due("d MIN", x.slice(0, MIN, 0), BAD);
         due("d MAX", x.slice(0, MAX, MAX), BAD);
         due("an empty place", x.slice(1, 0, 0), BAD);
-        for (int place : NO_PLACES) {
+        for (int place : Bench.NO_PLACES) {
             due("place " + place, x.slice(place, 0, 0), BAD);
         }
     }
 
     private static void face() {
         promise = 17;
-        CornerHeaps x = with("x111r0;", "x111r1;");
+        CornerHeaps x = Bench.with("x111r0;", "x111r1;");
         int[][][] faces = {{{0, -2, 1}, {1, 1, 2}, {-1, 1, 3}}, {{0, 2, 1}, {-1, -1, 2}, {1, -1, 3}}};
         for (int place = 0; place <= 1; place++) {
             for (int u = -6; u <= 6; u++) {
@@ -555,14 +522,14 @@ public final class PromisesTest {
             due("far off", x.face(place, MAX, -1), 0);
         }
         due("an empty place", x.face(2, 0, 0), BAD);
-        for (int place : NO_PLACES) {
+        for (int place : Bench.NO_PLACES) {
             due("place " + place, x.face(place, 0, 0), BAD);
         }
     }
 
     private static void kin() {
         promise = 18;
-        CornerHeaps x = with("x111r1;", "x123r31;", "x222r2010;");
+        CornerHeaps x = Bench.with("x111r1;", "x123r31;", "x222r2010;");
         due("kin(0, 0)", x.kin(0, 0), 0);
         due("kin(0, 1)", x.kin(0, 1), 1);
         due("kin(0, 2)", x.kin(0, 2), NONE);
@@ -575,7 +542,7 @@ public final class PromisesTest {
         due("k -1", x.kin(0, -1), BAD);
         due("k MIN", x.kin(0, MIN), BAD);
         due("an empty place", x.kin(3, 0), BAD);
-        for (int place : NO_PLACES) {
+        for (int place : Bench.NO_PLACES) {
             due("place " + place, x.kin(place, 0), BAD);
         }
         due("acts", x.count(2), 3);
@@ -583,7 +550,7 @@ public final class PromisesTest {
 
     private static void orders() {
         promise = 19;
-        CornerHeaps x = with("", "x222r2222;", "x443r3210100010000000;", "x333r222210000;");
+        CornerHeaps x = Bench.with("", "x222r2222;", "x443r3210100010000000;", "x333r222210000;");
         due("volume 8", x.orders(1), 48);
         due("most orders", x.orders(2), 336);
         due("volume 9", x.orders(3), FULL);
@@ -596,7 +563,7 @@ public final class PromisesTest {
         x.lay(3, 0, 0);
         due("three free cubes on one", x.orders(3), 6);
         due("an empty place", x.orders(0), BAD);
-        for (int place : NO_PLACES) {
+        for (int place : Bench.NO_PLACES) {
             due("place " + place, x.orders(place), BAD);
         }
     }
@@ -609,7 +576,7 @@ public final class PromisesTest {
         for (int[] want : wants) {
             due("many " + want[0] + want[1] + want[2], x.many(want[0], want[1], want[2]), want[3]);
         }
-        for (int[] box : NO_BOXES) {
+        for (int[] box : Bench.NO_BOXES) {
             due("no box", x.many(box[0], box[1], box[2]), BAD);
         }
     }
@@ -627,7 +594,7 @@ public final class PromisesTest {
         due("k above a", x.minor(2, 4, 4, 3), BAD);
         due("k -1", x.minor(2, 2, 2, -1), BAD);
         due("k MAX", x.minor(2, 2, 2, MAX), BAD);
-        for (int[] box : NO_BOXES) {
+        for (int[] box : Bench.NO_BOXES) {
             due("no box", x.minor(box[0], box[1], box[2], 0), BAD);
         }
     }
@@ -645,7 +612,7 @@ public final class PromisesTest {
         due("v MAX", x.series(4, 4, 3, MAX), 0);
         due("v -1", x.series(2, 2, 2, -1), BAD);
         due("v MIN", x.series(2, 2, 2, MIN), BAD);
-        for (int[] box : NO_BOXES) {
+        for (int[] box : Bench.NO_BOXES) {
             due("no box", x.series(box[0], box[1], box[2], 0), BAD);
         }
     }
@@ -665,7 +632,7 @@ public final class PromisesTest {
         due("q 0", x.weighed(2, 2, 2, 1, 0), BAD);
         due("q 10", x.weighed(2, 2, 2, 1, 10), BAD);
         due("q MIN", x.weighed(2, 2, 2, 1, MIN), BAD);
-        for (int[] box : NO_BOXES) {
+        for (int[] box : Bench.NO_BOXES) {
             due("no box", x.weighed(box[0], box[1], box[2], 0, 1), BAD);
         }
     }
@@ -688,14 +655,14 @@ public final class PromisesTest {
         due("set -1", x.symmetric(2, 2, 2, -1), BAD);
         due("set 16", x.symmetric(2, 2, 2, 16), BAD);
         due("a wrong set of a large box", x.symmetric(4, 4, 3, 16), BAD);
-        for (int[] box : NO_BOXES) {
+        for (int[] box : Bench.NO_BOXES) {
             due("no box", x.symmetric(box[0], box[1], box[2], 0), BAD);
         }
     }
 
     private static void between() {
         promise = 25;
-        CornerHeaps x = with("x222r0000;", "x222r2222;", "x222r2010;", "x223r0000;");
+        CornerHeaps x = Bench.with("x222r0000;", "x222r2222;", "x222r2010;", "x223r0000;");
         due("all", x.between(0, 1), 20);
         due("the wrong way round", x.between(1, 0), 0);
         due("one heap", x.between(2, 2), 1);
@@ -705,7 +672,7 @@ public final class PromisesTest {
         x.drop(3);
         due("an empty place", x.between(0, 3), BAD);
         due("an empty place", x.between(3, 0), BAD);
-        for (int place : NO_PLACES) {
+        for (int place : Bench.NO_PLACES) {
             due("x " + place, x.between(place, 0), BAD);
             due("y " + place, x.between(0, place), BAD);
         }
@@ -717,7 +684,7 @@ public final class PromisesTest {
 
     private static void way() {
         promise = 26;
-        CornerHeaps x = with("x222r0000;", "x222r2222;", "x222r2010;", "x222r2100;");
+        CornerHeaps x = Bench.with("x222r0000;", "x222r2222;", "x222r2010;", "x222r2100;");
         due("from none to all", x.way(0, 1, 0), 8);
         due("back", x.way(1, 0, 0), 8);
         due("to itself", x.way(2, 2, 0), 0);
@@ -736,7 +703,7 @@ public final class PromisesTest {
         due("one cube where all is forbidden", x.way(0, 2, 1), 1);
         due("m -1", x.way(0, 1, -1), BAD);
         due("m 10", x.way(0, 1, 10), BAD);
-        for (int place : NO_PLACES) {
+        for (int place : Bench.NO_PLACES) {
             due("x " + place, x.way(place, 0, 0), BAD);
             due("y " + place, x.way(0, place, 0), BAD);
         }
@@ -752,7 +719,7 @@ public final class PromisesTest {
 
     private static void image() {
         promise = 27;
-        CornerHeaps x = with("x222r2010;", "x111r1;");
+        CornerHeaps x = Bench.with("x222r2010;", "x111r1;");
         due("two heaps", x.image(0), 2);
         due("it is no act", x.count(2), 2);
         x.drop(0);
@@ -771,7 +738,7 @@ public final class PromisesTest {
 
     private static void restore() {
         promise = 28;
-        CornerHeaps x = with("x222r2010;");
+        CornerHeaps x = Bench.with("x222r2010;");
         due("no image", x.restore(0), STATE);
         due("no image", x.restore(1), STATE);
         due("acts stay", x.count(2), 1);
@@ -779,7 +746,7 @@ public final class PromisesTest {
         due("the other image", x.restore(0), STATE);
         x.lay(0, 0, 1);
         x.take(1, 1, 1, 1, 3);
-        write(x, "x1");
+        Bench.write(x, "x1");
         due("restore", x.restore(1), 1);
         dueHeap("restore", x, 0, "x222r2010;");
         due("the other place is empty", x.drop(3), BAD);
@@ -797,8 +764,8 @@ public final class PromisesTest {
 
     private static void count() {
         promise = 29;
-        CornerHeaps x = with("x222r2010;", "x111r1;", "x123r31;");
-        write(x, "abc");
+        CornerHeaps x = Bench.with("x222r2010;", "x111r1;", "x123r31;");
+        Bench.write(x, "abc");
         int[] wants = {3, 8, 3, 3};
         for (int what = 0; what <= 3; what++) {
             due("count " + what, x.count(what), wants[what]);
