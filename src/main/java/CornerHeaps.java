@@ -1055,7 +1055,8 @@ public final class CornerHeaps {
         private int indexOf(long cubes) {
             int low = 0;
             int high = size - 1;
-            while (low <= high) {
+            // Each round leaves at most half of the heaps, so there are fewer rounds than heaps.
+            for (int round = 0; round < size && low <= high; round++) {
                 int middle = (low + high) / 2;
                 if (heaps[middle] == cubes) {
                     return middle;

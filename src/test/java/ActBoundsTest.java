@@ -247,7 +247,8 @@ public final class ActBoundsTest {
     }
 
     private static void joinInPlace() {
-        Checks.says("Puts the union or the intersection of two heaps of equal boxes on a place, in place of what is there.");
+        Checks.says("Puts the union or the intersection of two heaps of equal boxes on a place,"
+                + " in place of what is there.");
         for (int to = 0; to <= 3; to++) {
             CornerHeaps x = Bench.with("x124r31;", "x124r22;", "x111r0;", "x111r1;");
             Checks.due("union", x.join(0, 1, 0, to), 5);

@@ -111,7 +111,8 @@ public final class BoxBoundsTest {
         // One object for all boxes, so that none disturbs another one.
         CornerHeaps x = new CornerHeaps();
         for (int times = 0; times < 2; times++) {
-            Bench.everyBox((a, b, c) -> Checks.due("many(" + Bench.box(a, b, c) + ")", x.many(a, b, c), heaps(a, b, c)));
+            Bench.everyBox((a, b, c) ->
+                    Checks.due("many(" + Bench.box(a, b, c) + ")", x.many(a, b, c), heaps(a, b, c)));
         }
         Checks.due("the smallest box", x.many(1, 1, 1), 2);
     }
@@ -220,7 +221,8 @@ public final class BoxBoundsTest {
             for (int b = 1; b <= 4; b++) {
                 for (int c = 1; c <= 4; c++) {
                     CornerHeaps x = new CornerHeaps();
-                    Checks.due("one row of " + b + " up to " + c, x.weighed(1, b, c, 4, q), (heaps(1, b, c) - 1) * q + 1);
+                    Checks.due("one row of " + b + " up to " + c, x.weighed(1, b, c, 4, q),
+                            (heaps(1, b, c) - 1) * q + 1);
                 }
             }
             CornerHeaps x = new CornerHeaps();
@@ -235,7 +237,8 @@ public final class BoxBoundsTest {
         Bench.everyBox((a, b, c) -> {
             CornerHeaps x = new CornerHeaps();
             for (int kind = 0; kind <= 4; kind++) {
-                Checks.due("kind " + kind + " by 1 in " + Bench.box(a, b, c), x.weighed(a, b, c, kind, 1), heaps(a, b, c));
+                Checks.due("kind " + kind + " by 1 in " + Bench.box(a, b, c), x.weighed(a, b, c, kind, 1),
+                        heaps(a, b, c));
                 Checks.holds("kind " + kind + " by 9 in " + Bench.box(a, b, c), x.weighed(a, b, c, kind, 9) >= 0);
             }
             Checks.due("kind 0 by 9 in " + Bench.box(a, b, c), x.weighed(a, b, c, 0, 9), heaps(a, b, c));
@@ -288,7 +291,8 @@ public final class BoxBoundsTest {
         Bench.everyBox((a, b, c) -> {
             CornerHeaps x = new CornerHeaps();
             boolean tooMany = heaps(a, b, c) > 1000;
-            Checks.due("symmetric(" + Bench.box(a, b, c) + ", 0)", x.symmetric(a, b, c, 0), tooMany ? FULL : heaps(a, b, c));
+            Checks.due("symmetric(" + Bench.box(a, b, c) + ", 0)", x.symmetric(a, b, c, 0),
+                    tooMany ? FULL : heaps(a, b, c));
             Checks.holds("symmetric(" + Bench.box(a, b, c) + ", 15)", x.symmetric(a, b, c, 15) == FULL == tooMany);
         });
         Checks.due("980 heaps", new CornerHeaps().symmetric(3, 3, 3, 0), 980);
@@ -362,8 +366,8 @@ public final class BoxBoundsTest {
     }
 
     private static void wayToItself() {
-        Checks.says("Finds the fewest cubes that are added and removed, one by one, to get from one heap to another one,"
-                + " with a heap of the same box after each of them.");
+        Checks.says("Finds the fewest cubes that are added and removed, one by one,"
+                + " to get from one heap to another one, with a heap of the same box after each of them.");
         for (int m = 0; m <= 9; m++) {
             CornerHeaps x = Bench.with("x222r2010;", "x222r2010;", "x222r0000;", "x111r1;");
             Checks.due("from a place to itself", x.way(0, 0, m), 0);

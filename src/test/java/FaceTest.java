@@ -33,6 +33,7 @@ public final class FaceTest {
         members();
         classesInside();
         words();
+        lengths();
         Checks.finish();
     }
 
@@ -62,6 +63,11 @@ public final class FaceTest {
             }
         }
         Checks.holds("the methods are " + seen, seen.equals(new TreeSet<>(Arrays.asList(FACE))));
+        for (Class<?> inside : CornerHeaps.class.getDeclaredClasses()) {
+            for (Method method : inside.getDeclaredMethods()) {
+                privateNames.add(method.getName());
+            }
+        }
         privateNames.retainAll(publicNames);
         Checks.holds("private methods with public names: " + privateNames, privateNames.isEmpty());
         for (Constructor<?> constructor : CornerHeaps.class.getDeclaredConstructors()) {
@@ -97,6 +103,23 @@ public final class FaceTest {
             Checks.holds(some + " has at most twenty fields", fields <= 20);
             for (Method method : some.getDeclaredMethods()) {
                 Checks.holds(method + " takes at most seven parameters", method.getParameterCount() <= 7);
+            }
+        }
+    }
+
+    /** A method of the file begins with a line that ends in ") {" at the depth of members. */
+    private static void lengths() throws Exception {
+        List<String> lines = Files.readAllLines(SOURCE);
+        int start = -1;
+        String end = "";
+        for (int n = 0; n < lines.size(); n++) {
+            String line = lines.get(n);
+            if (start < 0 && line.matches("( {4}| {8})[A-Za-z].*\\) \\{")) {
+                start = n;
+                end = line.replaceAll("\\S.*", "") + "}";
+            } else if (start >= 0 && line.equals(end)) {
+                Checks.holds("at most sixty lines: " + lines.get(start).trim(), n - start < 60);
+                start = -1;
             }
         }
     }

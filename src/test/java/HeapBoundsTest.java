@@ -164,6 +164,16 @@ public final class HeapBoundsTest {
         for (String heap : all) {
             kin(heap, 3, 7, 2, 6, 3, 7, 3, 7, 2, 6, 2, 6);
         }
+        // What one heap has is not left over for the next one.
+        CornerHeaps x = Bench.with("x123r31;", "x111r1;", "x222r2110;", "x112r1;");
+        int[] sizes = {12, 2, 1, 3};
+        for (int times = 0; times < 2; times++) {
+            for (int place = 0; place <= 3; place++) {
+                Checks.due("how many kin place " + place + " has", x.whole(place, 9), sizes[place]);
+                Checks.due("kin behind the last of place " + place, x.kin(place, sizes[place]), NONE);
+                Checks.holds("the last kin of place " + place, x.kin(place, sizes[place] - 1) >= 0);
+            }
+        }
     }
 
     private static void kin(String heap, int... numbers) {
